@@ -421,8 +421,10 @@ public final class SnowmeltStreams {
         }
 
         boolean isPairWith(Event other, int reach) {
+            // No two sources but 0 and 1 have numbers that add up to 1.
+            boolean isOfBoth = source + other.source == 1;
             int apart = time < other.time ? other.time - time : time - other.time;
-            return source + other.source == 1 && key == other.key && apart <= reach && !isLate() && !other.isLate();
+            return isOfBoth && key == other.key && apart <= reach && !isLate() && !other.isLate();
         }
     }
 

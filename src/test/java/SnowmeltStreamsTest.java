@@ -621,6 +621,8 @@ public final class SnowmeltStreamsTest {
         duePairs("reach 0, the snapshot ahead of it", 0, y);
         y.take(1);
         duePairs("reach 0", 1, y);
+        pass(y, 0, 4, 0, 1);
+        duePairs("1 apart", 1, y);
     }
 
     private static void uncommitted() {
