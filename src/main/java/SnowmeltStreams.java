@@ -511,7 +511,9 @@ public final class SnowmeltStreams {
         }
 
         void copyFrom(Window other) {
-            begin(other.key, other.start, other.end);
+            key = other.key;
+            start = other.start;
+            end = other.end;
             count = other.count;
             sum = other.sum;
             isEmitted = other.isEmitted;
@@ -652,7 +654,7 @@ public final class SnowmeltStreams {
         boolean absorbMet(Window window, Sink sink) {
             boolean isMended = false;
             int at = 0;
-            while (at < rows.size()) {
+            for (int left = rows.size(); left > 0 && at < rows.size(); left--) {
                 Window other = rows.get(at);
                 if (!window.meets(other)) {
                     at++;
