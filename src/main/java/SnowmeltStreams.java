@@ -115,7 +115,7 @@ public final class SnowmeltStreams {
         if (event == null) {
             throw new IllegalStateException("the channel is empty");
         }
-        return takeEvent(event);
+        return takeEvent(source, event);
     }
 
     public int barrier() throws IllegalStateException {
@@ -303,8 +303,7 @@ public final class SnowmeltStreams {
         return LAST_BARRIER;
     }
 
-    private int takeEvent(Event event) {
-        int source = event.source;
+    private int takeEvent(int source, Event event) {
         event.watermark = now.watermark;
         now.pairs += history.countPairsOf(event, job.reach);
         history.events.add(event);

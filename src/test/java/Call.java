@@ -3,7 +3,6 @@ import java.util.List;
 
 /** A call told by words, as in "append 0 5 1 10". An answer is a number; an exception is one too, far from all others. */
 final class Call {
-    static final int INDEX = 50_000_001, ARGUMENT = 50_000_002, STATE = 50_000_003;
     static final int NO_NUMBER = -1000000;
     private static final List<String> CONSTANTS = List.of("TUMBLE", "SLIDE", "GAP", "EVENT", "LATE", "DROPPED", "BARRIER",
             "LAST_BARRIER");
@@ -36,34 +35,12 @@ final class Call {
         };
     }
 
-    static String told(int answer) {
-        return switch (answer) {
-            case INDEX -> "IndexOutOfBoundsException";
-            case ARGUMENT -> "IllegalArgumentException";
-            case STATE -> "IllegalStateException";
-            default -> Integer.toString(answer);
-        };
-    }
-
-    static boolean isRefused(int answer) {
-        return answer >= INDEX && answer <= STATE;
-    }
-
     /** The answer, true as 1 and no answer as 0; an exception that the document does not know goes on. */
     int answerOf(SnowmeltStreams x) {
         try {
             return call(x);
         } catch (RuntimeException e) {
-            if (e.getClass() == IndexOutOfBoundsException.class) {
-                return INDEX;
-            }
-            if (e.getClass() == IllegalArgumentException.class) {
-                return ARGUMENT;
-            }
-            if (e.getClass() == IllegalStateException.class) {
-                return STATE;
-            }
-            throw e;
+            return Refusal.of(e);
         }
     }
 

@@ -23,7 +23,7 @@ final class Case {
         }
 
         boolean accepts(int answer) {
-            return due == null ? !Call.isRefused(answer) : due == answer;
+            return due == null ? !Refusal.isOne(answer) : due == answer;
         }
     }
 
@@ -148,9 +148,9 @@ final class Case {
 
     private static int dueOf(String due) {
         return switch (due) {
-            case "! Index" -> Call.INDEX;
-            case "! Argument" -> Call.ARGUMENT;
-            case "! State" -> Call.STATE;
+            case "! Index" -> Refusal.INDEX;
+            case "! Argument" -> Refusal.ARGUMENT;
+            case "! State" -> Refusal.STATE;
             default -> Call.numberOf(due);
         };
     }

@@ -31,8 +31,8 @@ public final class SnowmeltStreamsBoundaryTest {
         for (Case.Step step : c.steps) {
             int got = step.call.answerOf(x);
             if (!step.accepts(got)) {
-                fault(c + ", line " + step.line + ": " + step.call.text + " answered " + Call.told(got) + ", due is "
-                        + (step.due == null ? "no exception" : Call.told(step.due)));
+                fault(c + ", line " + step.line + ": " + step.call.text + " answered " + Refusal.told(got) + ", due is "
+                        + (step.due == null ? "no exception" : Refusal.told(step.due)));
             }
         }
     }
@@ -144,7 +144,7 @@ public final class SnowmeltStreamsBoundaryTest {
             for (Call tried : tries) {
                 SnowmeltStreams x = new SnowmeltStreams();
                 playAll(x, calls.subList(0, at), 0);
-                if (Call.isRefused(tried.answerOf(x))) {
+                if (Refusal.isOne(tried.answerOf(x))) {
                     refused++;
                     if (!playAll(x, calls, at).equals(due.subList(at, due.size()))) {
                         fault(c + ": " + tried.text + " is refused ahead of the call " + (at + 1) + ", and changes what follows");

@@ -8,23 +8,14 @@ public final class SnowmeltStreamsModelTest {
         int answer();
     }
 
-    /** The answer, or a code for the exception; one that is not written in the document is rethrown. */
+    /** The answer, or the number of the exception; one that is not written in the document is rethrown. */
     private static int answerOf(Call call) {
         try {
             return call.answer();
         } catch (StreamsModel.Refused e) {
-            return e.code + 50_000_000;
+            return e.code;
         } catch (RuntimeException e) {
-            if (e.getClass() == IndexOutOfBoundsException.class) {
-                return StreamsModel.INDEX + 50_000_000;
-            }
-            if (e.getClass() == IllegalArgumentException.class) {
-                return StreamsModel.ARGUMENT + 50_000_000;
-            }
-            if (e.getClass() == IllegalStateException.class) {
-                return StreamsModel.STATE + 50_000_000;
-            }
-            throw e;
+            return Refusal.of(e);
         }
     }
 
@@ -50,11 +41,11 @@ public final class SnowmeltStreamsModelTest {
     private void same(String call, Call real, Call due) {
         int got = answerOf(real);
         int want = answerOf(due);
-        story.append(call).append(" -> ").append(got).append('\n');
+        story.append(call).append(" -> ").append(Refusal.told(got)).append('\n');
         if (got != want && isGood) {
             isGood = false;
             wrong++;
-            System.out.println("run " + run + ": " + call + " answered " + got + ", due is " + want);
+            System.out.println("run " + run + ": " + call + " answered " + Refusal.told(got) + ", due is " + Refusal.told(want));
             if (wrong == 1) {
                 System.out.println(story);
             }

@@ -1,7 +1,7 @@
 /** For each promise of the document: ordinary inputs, the edges that it names, and wrong inputs. */
 public final class SnowmeltStreamsTest {
     private static final int NO_NUMBER = -1000000;
-    private static final int INDEX = 50_000_001, ARGUMENT = 50_000_002, STATE = 50_000_003;
+    private static final int INDEX = Refusal.INDEX, ARGUMENT = Refusal.ARGUMENT, STATE = Refusal.STATE;
     private static int wrong = 0;
 
     private interface Call {
@@ -16,16 +16,7 @@ public final class SnowmeltStreamsTest {
         try {
             return call.answer();
         } catch (RuntimeException e) {
-            if (e.getClass() == IndexOutOfBoundsException.class) {
-                return INDEX;
-            }
-            if (e.getClass() == IllegalArgumentException.class) {
-                return ARGUMENT;
-            }
-            if (e.getClass() == IllegalStateException.class) {
-                return STATE;
-            }
-            throw e;
+            return Refusal.of(e);
         }
     }
 

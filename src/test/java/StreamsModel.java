@@ -6,11 +6,11 @@ import java.util.Map;
 
 /**
  * The document's words once more, as plainly as they go: it holds only what was done, and finds each answer
- * by doing all of it again from the beginning. Exceptions are told by their place in the throws clause.
+ * by doing all of it again from the beginning. Exceptions are told by the numbers of Refusal.
  */
 final class StreamsModel {
-    static final int INDEX = 1001, ARGUMENT = 1002, STATE = 1003;
-    static final int NOTHING = -1000000;
+    private static final int INDEX = Refusal.INDEX, ARGUMENT = Refusal.ARGUMENT, STATE = Refusal.STATE;
+    private static final int NOTHING = -1000000;
 
     /** A call that throws: code is INDEX, ARGUMENT or STATE. */
     static final class Refused extends RuntimeException {
